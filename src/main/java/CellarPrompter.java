@@ -1237,8 +1237,11 @@ public final class CellarPrompter {
 
         private int bestToListen() {
             int best = 0;
+            int most = othersHeardIn(0);
             for (int h = 1; h < houses; h++) {
-                if (othersHeardIn(h) > othersHeardIn(best)) {
+                int others = othersHeardIn(h);
+                if (others > most) {
+                    most = others;
                     best = h;
                 }
             }
@@ -1763,9 +1766,12 @@ public final class CellarPrompter {
         /** The lines (bits) that can be said if these people are out and one line can't be said. */
         private int canBeSaid(Book b, int out, int without) {
             int said = mayBeSaid(b, 0, out, without) ? 1 : 0;
-            for (int round = 1; round < b.lines; round++) {
+            int looked = 0;
+            for (int round = 0; round < b.lines && looked != said; round++) {
+                int fresh = said & ~looked;
+                looked = said;
                 for (int l = 0; l < b.lines; l++) {
-                    for (int k = 0; (said >> l & 1) == 1 && k < b.howManyFollow(l); k++) {
+                    for (int k = 0; (fresh >> l & 1) == 1 && k < b.howManyFollow(l); k++) {
                         int next = b.following(l, k);
                         said |= mayBeSaid(b, next, out, without) ? 1 << next : 0;
                     }
