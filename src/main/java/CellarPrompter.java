@@ -788,7 +788,7 @@ public final class CellarPrompter {
         }
     }
 
-    /** A book; its followers are worked out once, when all of it is told. */
+    /** A book; its followers and the harm it does are worked out once, when all of it is told. */
     private static final class Book {
         static final int MOST_LINES = 20;
         static final int MOST_BACKS = 8;
@@ -797,6 +797,7 @@ public final class CellarPrompter {
         private final int[] who = new int[MOST_LINES];
         private final int[] scene = new int[MOST_LINES];
         private final int[] harm = new int[MOST_LINES];
+        private final int[] harmDone = new int[MOST_LINES];
         private final int[] backFrom = new int[MOST_BACKS];
         private final int[] backTo = new int[MOST_BACKS];
         private final int[] dries = new int[PEOPLE];
@@ -852,6 +853,7 @@ public final class CellarPrompter {
         void settle() {
             for (int l = 0; l < lines && l < MOST_LINES; l++) {
                 followerCounts[l] = 0;
+                harmDone[l] = isChild(who[l]) ? 0 : harm[l];
             }
             for (int l = 1; l < lines && l < MOST_LINES; l++) {
                 addFollower(cue[l], l);
@@ -877,6 +879,7 @@ public final class CellarPrompter {
             System.arraycopy(from.who, 0, who, 0, MOST_LINES);
             System.arraycopy(from.scene, 0, scene, 0, MOST_LINES);
             System.arraycopy(from.harm, 0, harm, 0, MOST_LINES);
+            System.arraycopy(from.harmDone, 0, harmDone, 0, MOST_LINES);
             System.arraycopy(from.backFrom, 0, backFrom, 0, MOST_BACKS);
             System.arraycopy(from.backTo, 0, backTo, 0, MOST_BACKS);
             System.arraycopy(from.dries, 0, dries, 0, PEOPLE);
@@ -923,7 +926,7 @@ public final class CellarPrompter {
         }
 
         int whoSays(int line) {
-            return has(line) ? who[line] : NONE;
+            return line >= 0 && line < lines && line < MOST_LINES ? who[line] : NONE;
         }
 
         int sceneOf(int line) {
@@ -932,7 +935,7 @@ public final class CellarPrompter {
 
         /** The harm that it does, which is none if a child says it. */
         int harmDone(int line) {
-            return line >= 0 && line < lines && line < MOST_LINES && !isChild(who[line]) ? harm[line] : 0;
+            return line >= 0 && line < lines && line < MOST_LINES ? harmDone[line] : 0;
         }
 
         boolean isChild(int person) {
@@ -1388,9 +1391,11 @@ public final class CellarPrompter {
         }
 
         private void drawDeed(Book b) {
-            switch (draw(8)) {
+            int number = draw(8);
+            int person = number == 7 ? draw(PEOPLE) : NONE;
+            switch (number) {
                 case 3:
-                    drawFollower(b);
+                    perform(b, SAY, drawFollower(b));
                     break;
                 case 4:
                     perform(b, DRY, NONE);
@@ -1402,7 +1407,7 @@ public final class CellarPrompter {
                     perform(b, GO, NONE);
                     break;
                 case 7:
-                    drawPerson(b);
+                    perform(b, isIn(person) ? OUT : IN, person);
                     break;
                 default:
                     perform(b, SAY, due(b));
@@ -1410,16 +1415,10 @@ public final class CellarPrompter {
             }
         }
 
-        private void drawFollower(Book b) {
+        /** NONE, which nobody can say, and no further number drawn, if the last line has no followers. */
+        private int drawFollower(Book b) {
             int places = b.howManyFollow(last);
-            if (places > 0) {
-                perform(b, SAY, b.following(last, draw(places)));
-            }
-        }
-
-        private void drawPerson(Book b) {
-            int person = draw(PEOPLE);
-            perform(b, isIn(person) ? OUT : IN, person);
+            return places > 0 ? b.following(last, draw(places)) : NONE;
         }
 
         private int draw(int below) {

@@ -724,6 +724,10 @@ public final class PromisesTest {
             Kit.due("the other book", x.book(1, 0), 3);
             Kit.due("evenings", x.count(1), 1);
             Kit.due("till", x.till(0, 0), 12);
+            Kit.due("harm", x.state(0, 0, 12, 4), 11);
+            Kit.due("a child", x.book(0, 23), 1);
+            Kit.due("who dries", x.book(0, 10), 5);
+            Kit.due("a scene", x.book(0, 306), 4);
             Kit.due("the log", x.voice(0, -1), 4);
             Kit.due("the town", x.town(0, 30), 2);
             Kit.due("the tape", x.text(0, 1), 1);
