@@ -45,6 +45,7 @@ public final class CellarPrompter {
         int have = told.howMany(sort);
         boolean mayBeTold = at == NONE ? have >= 0 && have < Told.MOST : at >= 0 && at < have;
         if (!mayBeTold) {
+            told.size = 0;
             told.fault = 0;
             told.place = NONE;
             return NO_SUCH;
@@ -2058,12 +2059,13 @@ public final class CellarPrompter {
 
         long show(Book b, Log g, int what) {
             countFrom(b, g);
-            long all = at(from, 0, 0);
+            // Without voices there is one way that fits, the row without lines, and it has no strayings.
+            long all = g.voices == 0 ? 1 : at(from, 0, 0);
             switch (what) {
                 case 0:
                     return all;
                 case 1:
-                    return all == 0 ? NONE : fewest[0];
+                    return all == 0 ? NONE : g.voices == 0 ? 0 : fewest[0];
                 case 2:
                     return all == 0 ? NONE : bestGuess(b, g);
                 default:

@@ -276,7 +276,8 @@ final class Oracle {
     /** Voices: 6 is a gap. */
     List<List<Integer>> fitting(int[] voices) {
         List<List<Integer>> found = new ArrayList<>();
-        for (List<Integer> way : voices.length == 0 ? new ArrayList<List<Integer>>() : ways(voices.length)) {
+        // Of no voices the one row without lines fits, whatever the book.
+        for (List<Integer> way : voices.length == 0 ? List.of(List.<Integer>of()) : ways(voices.length)) {
             boolean fits = way.size() == voices.length;
             for (int i = 0; fits && i < voices.length; i++) {
                 fits = voices[i] == 6 || voices[i] == who(way.get(i));

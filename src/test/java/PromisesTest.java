@@ -105,8 +105,10 @@ public final class PromisesTest {
     private static void texts() {
         CellarPrompter x = new CellarPrompter();
         for (int sort = 0; sort < 4; sort++) {
-            Kit.put(x, sort == 0 ? "free 4;" : "");
+            Kit.put(x, "free 4;");
             Kit.due("in the place of none", x.text(sort, 0), -2);
+            Kit.due("the tape is taken", x.end(1), -1);
+            Kit.put(x, sort == 0 ? "free 4;" : "");
             Kit.due("the first", x.text(sort, -1), 0);
             Kit.due("in its place", x.text(sort, 0), 0);
             Kit.due("not that one", x.text(sort, 1), -2);
@@ -121,22 +123,31 @@ public final class PromisesTest {
         Kit.due("count", x.count(-1), -2);
         Kit.due("count", x.count(4), -2);
         Kit.due("the book in the place of the first is empty", x.book(0, 1), 3);
-        keptTape(x);
+        refused(x);
         faultyInPlace(x);
     }
 
-    private static void keptTape(CellarPrompter x) {
-        Kit.due("a fault", Kit.tell(x, 0, 0, "line"), -1);
-        Kit.due("fault", x.fault(0), 1);
-        Kit.put(x, "free 7;");
-        Kit.due("no such sort", x.text(4, -1), -2);
-        Kit.due("no fault then", x.fault(0), 0);
-        Kit.due("no place then", x.fault(1), -1);
-        Kit.due("no such sort", x.text(-1, 0), -2);
-        Kit.due("as many as may be", x.text(0, -1), -2);
-        Kit.due("the tape is still there", x.text(0, 1), 1);
-        Kit.due("free", x.book(1, 1), 7);
-        Kit.due("the tape is taken", x.end(1), -1);
+    /** Each refusal takes the tape, ends the fault, and tells nothing. */
+    private static void refused(CellarPrompter x) {
+        Kit.due("free 7", Kit.tell(x, 0, 1, "free 7;"), 1);
+        int[] sorts = {4, -1, 4, -1, Integer.MIN_VALUE, Integer.MAX_VALUE, 0, 0, 1, 2, 3, 0, 0, 0};
+        int[] ats = {-1, -1, 0, 0, 0, -1, -1, 2, -1, -1, -1, -2, Integer.MIN_VALUE, Integer.MAX_VALUE};
+        for (int i = 0; i < sorts.length; i++) {
+            String call = "text " + sorts[i] + " " + ats[i];
+            Kit.due("a fault", Kit.tell(x, 0, 0, "line"), -1);
+            Kit.due("fault", x.fault(0), 1);
+            Kit.due("the tape is taken with a fault, too", x.end(1), -1);
+            // The second one is no text of any sort: it is not read at all.
+            Kit.put(x, i % 2 == 0 ? "free 6;" : "*");
+            Kit.due(call, x.text(sorts[i], ats[i]), -2);
+            Kit.due(call + ", fault", x.fault(0), 0);
+            Kit.due(call + ", place", x.fault(1), -1);
+            Kit.due(call + ", the tape is taken", x.end(1), -1);
+            Kit.due(call + ", feed", x.feed(0, 0, 0, 0, 0), 20);
+            Kit.due(call + ", books", x.count(0), 2);
+            Kit.due(call + ", free", x.book(1, 1), 7);
+        }
+        x.end(0);
     }
 
     private static void faultyInPlace(CellarPrompter x) {
@@ -586,6 +597,7 @@ public final class PromisesTest {
         Kit.due("guess, the first of several", x.fits(0, 1, 2), 0);
         Kit.due("longer than the row", Kit.tell(x, 2, 1, "gap;gap;gap;gap;"), 1);
         Kit.due("shorter ways don't fit", x.fits(1, 1, 0), 0);
+        noVoices(Kit.with("line 0 0 0 0;line 0 1 0 0;back 1 0;", null, "", null));
     }
 
     private static void towns() {
@@ -685,10 +697,10 @@ public final class PromisesTest {
         Kit.due("merged", x.merged(0, 0, 1, 0), -1);
         Kit.due("common", x.merged(0, 0, 1, -2), 0);
         Kit.due("voices", x.voice(0, -1), 0);
-        Kit.due("fits", x.fits(0, 0, 0), 0);
-        Kit.due("fewest", x.fits(0, 0, 1), -1);
-        Kit.due("guess", x.fits(0, 0, 2), -1);
-        Kit.due("first", x.fits(0, 0, 10), -2);
+        noVoices(x);
+        Kit.due("a log with a voice", Kit.tell(x, 2, -1, "gap;"), 1);
+        Kit.due("nobody says it", x.fits(0, 1, 0), 0);
+        Kit.due("nobody says it", x.fits(0, 1, 2), -1);
         Kit.due("drawn", x.drawn(0, 0, 0, 0), -2);
         Kit.due("bar", x.bar(0, 0), 0);
         Kit.due("must", x.must(0, 0), -1);
@@ -699,6 +711,18 @@ public final class PromisesTest {
         Kit.due("parted", x.parted(0, 0), -1);
         Kit.due("hushed", x.after(0, 0, 0), 1);
         Kit.due("loudest", x.after(0, 0, 1), -1);
+    }
+
+    /** Of a log without voices one way fits, the row without lines. */
+    private static void noVoices(CellarPrompter x) {
+        Kit.due("no voices, fits", x.fits(0, 0, 0), 1);
+        Kit.due("no voices, fewest", x.fits(0, 0, 1), 0);
+        Kit.due("no voices, no gap", x.fits(0, 0, 2), -1);
+        Kit.due("no voices, no first", x.fits(0, 0, 10), -2);
+        Kit.due("no voices, none sure", x.fits(0, 0, 30), -2);
+        Kit.due("no voices, another what", x.fits(0, 0, 3), -2);
+        Kit.due("no such book", x.fits(1, 0, 0), -2);
+        Kit.due("no such log", x.fits(0, 1, 0), -2);
     }
 
     private static void images() {
